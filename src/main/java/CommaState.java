@@ -698,7 +698,7 @@ public final class CommaState {
                 return 0;
             }
             int best = NONE;
-            int first = Integer.numberOfTrailingZeros(wanted);
+            int first = Integer.bitCount((wanted & -wanted) - 1);
             for (int set = wanted; set <= everyTown(); set++) {
                 boolean holds = (set & wanted) == wanted;
                 boolean fewer = best == NONE || Integer.bitCount(set) < Integer.bitCount(best);
@@ -854,7 +854,7 @@ public final class CommaState {
         }
 
         int mostMovable(int a, int c) {
-            if (a == c) {
+            if (a == c || a < 0 || a >= MAX_TOWNS || c < 0 || c >= MAX_TOWNS) {
                 return 0;
             }
             int leaving = Math.min(breathe[a], voters[a] - 1);
@@ -961,43 +961,36 @@ public final class CommaState {
         }
 
         void readUnit(Tape tape, int open) {
+            int word = tape.kind == Tape.WORD ? tape.wordHere(WORDS) : NONE;
+            boolean bracket = tape.atSign('(');
+            if ((bracket || word >= FACTS) && open >= MAX_OPEN) {
+                tape.fail(3);
+            }
             if (!tape.sound()) {
                 return;
             }
             if (tape.kind == Tape.NUMBER) {
                 emit(tape.number(0, FACT - 1));
-            } else if (tape.kind == Tape.WORD) {
-                readWord(tape, open);
-            } else if (!tape.atSign('(')) {
+                return;
+            }
+            if (!bracket && word == NONE) {
                 tape.fail(1);
-            } else if (open >= MAX_OPEN) {
-                tape.fail(3);
-            } else {
-                tape.advance();
-                readSum(tape, open + 1);
-                tape.sign(')');
-            }
-        }
-
-        void readWord(Tape tape, int open) {
-            int word = tape.wordHere(WORDS);
-            if (word >= FACTS && open >= MAX_OPEN) {
-                tape.fail(3);
-            }
-            if (!tape.sound()) {
                 return;
             }
             tape.advance();
-            if (word < FACTS) {
+            if (bracket) {
+                readSum(tape, open + 1);
+                tape.sign(')');
+            } else if (word < FACTS) {
                 emit(FACT + word);
-                return;
+            } else {
+                tape.sign('[');
+                readSum(tape, open + 1);
+                tape.sign(',');
+                readSum(tape, open + 1);
+                tape.sign(']');
+                emit(JOIN + (word == LEAST ? '<' : '>'));
             }
-            tape.sign('[');
-            readSum(tape, open + 1);
-            tape.sign(',');
-            readSum(tape, open + 1);
-            tape.sign(']');
-            emit(JOIN + (word == LEAST ? '<' : '>'));
         }
 
         void tellTown(int voters, int breathe, int seats, int school, int near, int town) {
@@ -1394,12 +1387,13 @@ public final class CommaState {
             return seats < 1 ? 0 : world.voters[town] / seats;
         }
 
+        /** Without towns no set has a seat, so none is found. */
         int cheapestTurn(int party, World world, Land land) {
             int mine = world.sideBits(party, land);
             int others = world.sideBits(1 - party, land);
             int best = NONE;
             int bestCost = 0;
-            for (int set = 0; set <= land.everyTown() && land.towns > 0; set++) {
+            for (int set = 0; set <= land.everyTown(); set++) {
                 boolean wins = land.seatsIn(mine | set) > land.seatsIn(others & ~set);
                 if ((set & mine) == 0 && wins) {
                     int cost = turnCost(set, party, world, land);
@@ -1441,7 +1435,7 @@ public final class CommaState {
             for (int town = 0; town < MAX_TOWNS; town++) {
                 gifts[town] = 0;
             }
-            for (int i = 0; i < n && land.towns > 0; i++) {
+            for (int i = 0; i < n; i++) {
                 int best = 0;
                 for (int town = 1; town < land.towns; town++) {
                     int here = world.voters[town] * (gifts[best] + 1);

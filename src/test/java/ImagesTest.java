@@ -3,6 +3,7 @@ public final class ImagesTest {
     public static void main(String[] args) {
         images();
         imagesKeepWorks();
+        imagesKeepEachWork();
         counts();
         Check.end();
     }
@@ -68,6 +69,25 @@ public final class ImagesTest {
             Check.due("undo to " + i, x.undo(), i);
             Check.due("year " + i, x.told(2), i);
         }
+    }
+
+    private static void imagesKeepEachWork() {
+        CommaState x = Check.of("town 10 6 4;town 9 4 3;");
+        Check.work(x, "year;");
+        Check.work(x, "year;");
+        x.image();
+        x.undo();
+        x.undo();
+        Check.work(x, "fly;");
+        Check.work(x, "move 0 1 2;");
+        Check.work(x, "school 1;");
+        Check.due("restored", x.restore(), 0);
+        Check.due("undo", x.undo(), 1);
+        Check.due("year", x.told(2), 1);
+        Check.due("comma", x.told(5), 1);
+        Check.due("undo", x.undo(), 0);
+        Check.due("year", x.told(2), 0);
+        Check.due("voters", x.town(0, 0), 10);
     }
 
     private static void counts() {

@@ -94,6 +94,8 @@ public final class TextsTest {
         stateFault("5;", -9, 0);
         stateFault("town 0 0 1;", -8, 5);
         stateFault("town 00 0 1;", -8, 5);
+        stateFault("town 100 0 1;", -8, 5);
+        stateFault("town 9 1 0;", -8, 9);
         stateFault("town 99999999999999999999 0 1;", -8, 5);
         stateFault("town 4294967297 0 1;", -8, 5);
         stateFault("town 5 6 1;", -8, 7);
@@ -268,6 +270,7 @@ public final class TextsTest {
         Check.due("breathe fewer", x.town(1, 1), 9);
         Check.due("years", Check.work(x, "again 3[year;again 2[year;];];"), 9);
         Check.due("year", x.told(2), 9);
+        Check.due("as many steps as a text holds", Check.work(x, Check.times(37, "fly;") + "  "), 37);
         Check.due("again 0", Check.work(x, "again 0[year;];again 2[];"), 0);
         Check.due("nothing refused", x.told(9), 0);
         Check.due("six open", Check.work(x, "again 1[again 1[again 1[again 1[again 1[again 2[year;];];];];];];"), 2);
