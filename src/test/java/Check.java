@@ -1,5 +1,3 @@
-import java.util.NoSuchElementException;
-
 /** What the tests share: texts fed, answers compared, and the closing line. */
 final class Check {
     interface Call {
@@ -22,35 +20,25 @@ final class Check {
     }
 
     static void noSuch(String what, Call call) {
-        String got = "nothing";
-        try {
-            call.answer();
-        } catch (NoSuchElementException e) {
-            got = "NoSuchElementException";
-        } catch (IllegalArgumentException e) {
-            got = "IllegalArgumentException";
-        }
-        thrown(what, got, "NoSuchElementException");
+        throwing(what, call, "NoSuchElementException");
     }
 
     static void bad(String what, Call call) {
+        throwing(what, call, "IllegalArgumentException");
+    }
+
+    private static void throwing(String what, Call call, String want) {
         String got = "nothing";
         try {
             call.answer();
-        } catch (NoSuchElementException e) {
-            got = "NoSuchElementException";
-        } catch (IllegalArgumentException e) {
-            got = "IllegalArgumentException";
+        } catch (RuntimeException e) {
+            got = e.getClass().getSimpleName();
         }
-        thrown(what, got, "IllegalArgumentException");
-    }
-
-    private static void thrown(String what, String got, String want) {
-        if (!got.equals(want)) {
+        if (got.equals(want)) {
+            passed++;
+        } else {
             failed++;
             System.out.println(what + " throws " + got + ", due is " + want);
-        } else {
-            passed++;
         }
     }
 
