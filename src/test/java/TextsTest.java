@@ -379,7 +379,7 @@ public final class TextsTest {
         Check.due("what comes behind is left out", x.told(2), 0);
         Check.due("empty agains", Check.work(x, "again 30[again 30[again 30[again 30[];];];];year;"), 0);
         Check.due("year left out", x.told(2), 0);
-        Check.due("199 and the year", Check.work(x, "again 28[again 6[];];again 1[];again 1[];year;"), 1);
+        Check.due("agains without steps, then the year", Check.work(x, "again 28[again 6[];];again 1[];again 1[];year;"), 1);
         Check.due("199", Check.work(x, "again 28[again 3[fly;];fly;fly;fly;];fly;fly;year;fly;"), 28 * 6 + 3);
         Check.due("the 200th was the year", x.told(2), 2);
         Check.bad("work -1", () -> x.work(-1));
