@@ -11,6 +11,7 @@ public final class KeepBoundsTest {
         wrongLengths();
         stateClearsAll();
         nothingLeftOfMoreTowns();
+        askedNothingStaysChanged();
         faultyTextsLeaveAll();
         faultOfTheLatestText();
         imagesAtMost3();
@@ -151,6 +152,23 @@ public final class KeepBoundsTest {
             Check.state(x, state);
             Check.same("as a new object by " + state, Check.asked(x), Check.asked(Check.of(state)));
         }
+    }
+
+    private static void askedNothingStaysChanged() {
+        CommaState x = Check.of(TWO + "town 8 4 1;road 1 2;");
+        Check.law(x, "votes+in*2-near");
+        Check.book(x, "1 1;");
+        Check.work(x, "vote;move 0 0 1;school 2;year;");
+        x.image();
+        Check.feed(x, "fly;");
+        String before = Check.shown(x);
+        String asked = Check.asked(x);
+        x.would(999, 0, 9, 0, 1, 7, 999, 0, 7, 400);
+        x.can(0, 1, 1);
+        x.commas(30, 10, 1);
+        Check.same("all stays", Check.shown(x), before);
+        Check.same("the same answers when asked again", Check.asked(x), asked);
+        Check.due("none refused", x.status(0) + x.status(1), 0);
     }
 
     private static void faultyTextsLeaveAll() {
