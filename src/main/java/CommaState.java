@@ -261,13 +261,13 @@ public final class CommaState {
     public int span(int seed, int many, int q, int days, int what) throws IllegalArgumentException {
         need(within(many, 1, 20) && within(q, 0, 16));
         need(within(days, 1, 96) && within(what, 0, 2));
-        int fewest = Integer.MAX_VALUE;
+        int fewest = 0;
         int greatest = 0;
         int firstIn = 0;
         for (int i = 0; i < many; i++) {
             fate.serveTerm(seed + i, q, days, world, land, ruling);
             int breathing = fate.later.allBreathe(land);
-            fewest = Math.min(fewest, breathing);
+            fewest = i == 0 ? breathing : Math.min(fewest, breathing);
             greatest = Math.max(greatest, breathing);
             firstIn += fate.later.party == 0 ? 1 : 0;
         }

@@ -67,11 +67,17 @@ public final class FaceTest {
         for (Field f : CommaState.class.getDeclaredFields()) {
             int mods = f.getModifiers();
             open += Modifier.isPrivate(mods) ? 0 : 1;
-            if (Modifier.isStatic(mods)) {
-                Check.due(f.getName() + " is final", Modifier.isFinal(mods) ? 1 : 0, 1);
-            }
+            Check.yes(f.getName() + " is no static state", noState(f));
         }
         Check.due("fields that are not private", open, 1);
+    }
+
+    /** Rule 5: what is static is a constant of int, long, boolean, char or String. */
+    private static boolean noState(Field f) {
+        Class<?> type = f.getType();
+        boolean constant = type == int.class || type == long.class || type == boolean.class
+            || type == char.class || type == String.class;
+        return !Modifier.isStatic(f.getModifiers()) || Modifier.isFinal(f.getModifiers()) && constant;
     }
 
     private static void inside(Class<?> outer, List<String> names) {
@@ -83,6 +89,7 @@ public final class FaceTest {
             int own = 0;
             for (Field f : c.getDeclaredFields()) {
                 own += Modifier.isStatic(f.getModifiers()) ? 0 : 1;
+                Check.yes(c.getName() + "." + f.getName() + " is no static state", noState(f));
             }
             Check.due(c.getName() + " has at most 20 fields", own <= 20 ? 1 : 0, 1);
             for (Method m : c.getDeclaredMethods()) {

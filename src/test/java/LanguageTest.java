@@ -1,6 +1,7 @@
 import java.nio.charset.StandardCharsets;
 import java.nio.file.Files;
 import java.nio.file.Path;
+import java.util.Set;
 import java.util.regex.Matcher;
 import java.util.regex.Pattern;
 
@@ -10,6 +11,9 @@ public final class LanguageTest {
         "->", "::", "\\bcatch\\b", "\\bfinally\\b", "\\bsynchronized\\b", "\\bassert\\b", "\\bpackage\\b",
         "\\bprotected\\b", "\\bdouble\\b", "\\bfloat\\b", "Exact\\(", "Random", "nanoTime", "currentTimeMillis",
         "\\bThread\\b", "hashCode", "toString", "while \\(true\\)", "for \\(;;\\)", "for \\([^;]*;\\s*;"};
+
+    private static final Set<String> LIBRARY = Set.of(
+        "Math.min", "Math.max", "Math.abs", "Integer.bitCount", "System.arraycopy");
 
     public static void main(String[] args) throws Exception {
         Path file = Path.of("src/main/java/CommaState.java");
@@ -23,6 +27,7 @@ public final class LanguageTest {
         while (imports.find()) {
             Check.due("import " + imports.group(1), imports.group(1).equals("java.util.NoSuchElementException") ? 1 : 0, 1);
         }
+        libraryNames(code);
         int high = 0;
         for (byte b : raw) {
             high += b < 0 ? 1 : 0;
@@ -30,6 +35,17 @@ public final class LanguageTest {
         Check.due("signs above 127", high, 0);
         methodLengths(code);
         Check.end();
+    }
+
+    /** A constant of the library leaves no trace in the compiled class, so it is looked for in the text. */
+    private static void libraryNames(String code) {
+        Matcher used = Pattern.compile("\\b(Integer|Long|Math|System|Arrays|Character|Byte|Short|Boolean)\\.\\w+").matcher(code);
+        int found = 0;
+        while (used.find()) {
+            found++;
+            Check.yes(used.group() + " is in rule 4's list", LIBRARY.contains(used.group()));
+        }
+        Check.yes("names of the library are seen", found > 0);
     }
 
     private static void methodLengths(String code) {
